@@ -461,7 +461,8 @@ public final class HuskYard {
     /** The orders of the yard and the best row to spin them in. */
     private static final class SpinYard {
         private static final int MOST = 7;
-        private static final int ALL_ROWS = 5040;
+        // Above what seven orders can come to: 7 * 9 * (7 * 150).
+        private static final int TOO_LATE = 1000000;
 
         private final int[] sorts = new int[MOST];
         private final int[] hours = new int[MOST];
@@ -535,21 +536,36 @@ public final class HuskYard {
             return hour;
         }
 
-        /** Goes through the rows first by numbers first, so of like ones the first is kept. */
         private void plan() {
             if (planned) {
                 return;
             }
             planned = true;
-            for (int i = 0; i < count; i++) {
-                row[i] = i;
+            bestLate = TOO_LATE;
+            tryPlace(0, 0, 0, 0, 0);
+        }
+
+        /** Goes through the rows first by numbers first, so of like ones the first is kept. */
+        private void tryPlace(int place, int used, int hour, int sort, int late) {
+            if (place >= count) {
+                keepRow(late);
+                return;
             }
-            keepRow(lateOfRow());
-            for (int tried = 1; tried < ALL_ROWS && stepRow(); tried++) {
-                int late = lateOfRow();
-                if (late < bestLate) {
-                    keepRow(late);
+            for (int order = 0; order < count; order++) {
+                if (((used >> order) & 1) == 0) {
+                    row[place] = order;
+                    tryRest(place, used | (1 << order), hour, sort, late);
                 }
+            }
+        }
+
+        /** A row that is as late as the best already is left: orders behind make it no better. */
+        private void tryRest(int place, int used, int hour, int sort, int late) {
+            int order = row[place];
+            int end = endOf(order, hour, sort);
+            int lateNow = late + Math.max(0, end - dues[order]) * worths[order];
+            if (lateNow < bestLate) {
+                tryPlace(place + 1, used, end, sorts[order], lateNow);
             }
         }
 
@@ -560,48 +576,9 @@ public final class HuskYard {
             }
         }
 
-        private int lateOfRow() {
-            int late = 0;
-            int hour = 0;
-            int sort = 0;
-            for (int i = 0; i < count; i++) {
-                int order = row[i];
-                hour = endOf(order, hour, sort);
-                sort = sorts[order];
-                late += Math.max(0, hour - dues[order]) * worths[order];
-            }
-            return late;
-        }
-
         private int endOf(int order, int hour, int sort) {
             int begin = sorts[order] == sort ? hour : hour + changeHours;
             return begin + hours[order];
-        }
-
-        /** Makes row the next one by numbers; false if it was the last. */
-        private boolean stepRow() {
-            int turn = count - 2;
-            while (turn >= 0 && row[turn] > row[turn + 1]) {
-                turn--;
-            }
-            if (turn < 0) {
-                return false;
-            }
-            int next = count - 1;
-            while (next > turn && row[next] < row[turn]) {
-                next--;
-            }
-            swapInRow(turn, next);
-            for (int left = turn + 1, right = count - 1; left < right; left++, right--) {
-                swapInRow(left, right);
-            }
-            return true;
-        }
-
-        private void swapInRow(int one, int other) {
-            int kept = row[one];
-            row[one] = row[other];
-            row[other] = kept;
         }
     }
 

@@ -40,6 +40,8 @@ public final class FindsTest {
 
     private static void aFindFitsByMarks() {
         HuskYard yard = afloat(3, 7, 5, 11);
+        CHECK.due("a first that fits none", yard.find(16, 0), -1);
+        CHECK.due("a first that all are against", yard.find(0, 1), -1);
         CHECK.due("find(3, 4)", yard.find(3, 4), 0);
         CHECK.due("fits 3 and 11", yard.found(0, 0), 2);
         CHECK.due("sure of none", yard.found(0, 1), -1);

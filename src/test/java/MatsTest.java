@@ -6,6 +6,7 @@ public final class MatsTest {
         rollTakesWhatTheTermsAllow();
         cutTakesWhatTheTermsAllow();
         aRollGivesNoMoreThanItsLength();
+        aRollIsOpenedOnce();
         aMatIsOfOneLot();
         ofLikeLaysTheLowerRollFirst();
         theLeastMayNeedManyRolls();
@@ -65,6 +66,15 @@ public final class MatsTest {
         lay(yard, 19, 0, 0, 1);
         yard.cut(9, 0);
         lay(yard, -1, -1, -1, -1, -1);
+    }
+
+    private static void aRollIsOpenedOnce() {
+        HuskYard yard = new HuskYard();
+        yard.roll(10, 0);
+        yard.roll(9, 0);
+        yard.cut(1, 0);
+        yard.cut(9, 0);
+        lay(yard, 10, 0, 0);
     }
 
     private static void aMatIsOfOneLot() {

@@ -111,6 +111,7 @@ public final class OrdersTest {
         yard.change(7);
         yard.order(1, 3, 0, 1);
         yard.order(1, 4, 0, 1);
+        CHECK.due("late() before", yard.late(), 24);
         CHECK.due("clear()", yard.clear(), 2);
         CHECK.due("clear() again", yard.clear(), 0);
         CHECK.due("spun(0, 0)", yard.spun(0, 0), -1);
