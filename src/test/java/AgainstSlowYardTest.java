@@ -3,6 +3,9 @@ import java.util.Random;
 /** Runs of calls, always the same, on HuskYard and on SlowYard: each pair of answers is alike. */
 public final class AgainstSlowYardTest {
     private static final Check CHECK = new Check("AgainstSlowYardTest");
+    private static final int MOST_CALLS = 512;
+    // A find and all that is asked behind it.
+    private static final int MOST_CALLS_AT_ONCE = 90;
 
     private final Random random;
     private final HuskYard yard = new HuskYard();
@@ -15,10 +18,11 @@ public final class AgainstSlowYardTest {
     }
 
     public static void main(String[] args) {
-        int runs = args.length > 0 ? Integer.parseInt(args[0]) : 150;
+        int runs = args.length > 0 ? Integer.parseInt(args[0]) : 500;
         for (int seed = 1; seed <= runs && CHECK.wrong() < 20; seed++) {
             AgainstSlowYardTest run = new AgainstSlowYardTest(seed);
-            for (int call = 0; call < 512; call++) {
+            int end = CHECK.looked() + MOST_CALLS - MOST_CALLS_AT_ONCE;
+            while (CHECK.looked() <= end) {
                 run.callOf(seed % 5);
             }
         }
@@ -109,8 +113,11 @@ public final class AgainstSlowYardTest {
             case 7: {
                 int seen = marks & near(0, 255) & near(0, 255);
                 int not = near(0, 255) & near(0, 255) & (random.nextInt(20) == 0 ? -1 : ~seen);
-                CHECK.due("find", yard.find(seen, not), slow.find(seen, not));
-                allFinds();
+                int due = slow.find(seen, not);
+                CHECK.due("find", yard.find(seen, not), due);
+                if (due != -1) {
+                    allFinds();
+                }
                 break;
             }
             default: {
@@ -124,7 +131,7 @@ public final class AgainstSlowYardTest {
 
     private void allFinds() {
         for (int find = -1; find <= 8; find++) {
-            for (int what = -1; what <= 2; what++) {
+            for (int what = 0; what <= 1; what++) {
                 CHECK.due("found(" + find + ", " + what + ")", yard.found(find, what),
                         slow.found(find, what));
             }
