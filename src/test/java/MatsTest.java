@@ -10,6 +10,7 @@ public final class MatsTest {
         openedWithoutCuts();
         openedByLengths();
         openedByLots();
+        oneMatAloneInItsLot();
         withoutALay();
         theLeastOpened();
         ofLikeLaysTheLowerRollFirst();
@@ -168,6 +169,20 @@ public final class MatsTest {
         lay(bound, 31, 1, 0, 2);
     }
 
+    private static void oneMatAloneInItsLot() {
+        CHECK.on(18, "whichever mat alone in whichever lot, the three others in another");
+        for (int mat = 0; mat < 4; mat++) {
+            for (int lots = 0; lots < 9; lots++) {
+                HuskYard yard = rolls(lots / 3, 10);
+                yard.roll(30, lots % 3);
+                for (int next = 0; next < 4; next++) {
+                    cuts(yard, (mat + next) % 4, 10);
+                }
+                lay(yard, 40, 0, 1, 1, 1);
+            }
+        }
+    }
+
     private static void withoutALay() {
         CHECK.on(18, "NONE: cuts and no roll");
         HuskYard yard = new HuskYard();
@@ -278,6 +293,10 @@ public final class MatsTest {
         }
         CHECK.due("roll(10, 0)", full.roll(10, 0), -1);
         CHECK.due("cut(1, 0)", full.cut(1, 0), -1);
+        CHECK.on(20, "the lay that was told before is gone");
+        lay(full, 10, 0, 0, 0, 0, 0, 0, 0, 0);
+        full.away();
+        lay(full, 0, -1);
         CHECK.on(20, "rolls and cuts alone");
         int[] left = {8, 12, 2, 3, 1, 1, 2, 107, 3, 1};
         for (int what = 0; what < left.length; what++) {

@@ -200,6 +200,9 @@ public final class OrdersTest {
         HuskYard yard = Yards.busy();
         row(yard, 3 * 2 + 15 * 3, 0, 2, 1);
         ends(yard, 15, 20, 45);
+        CHECK.on(14, "asked before late(), it is the same");
+        CHECK.due("spun(1, 0)", Yards.busy().spun(1, 0), 2);
+        CHECK.due("spun(2, 1)", Yards.busy().spun(2, 1), 45);
         CHECK.on(14, "an order more makes another best");
         yard.order(0, 1, 0, 9);
         row(yard, 9 + 4 * 2 + 16 * 3, 3, 0, 2, 1);
@@ -247,6 +250,12 @@ public final class OrdersTest {
             CHECK.due("order " + order, full.order(0, 1, 0, 1), order);
         }
         CHECK.due("order(0, 1, 0, 1)", full.order(0, 1, 0, 1), -1);
+        CHECK.on(15, "the best that was told before is gone");
+        CHECK.due("late() before", full.late(), 28);
+        full.clear();
+        CHECK.due("late()", full.late(), 0);
+        full.order(0, 9, 9, 1);
+        row(full, 0, 0, -1);
         CHECK.on(15, "orders alone");
         int[] left = {8, 12, 2, 2, 3, 3, 2, 107, 3, 1};
         for (int what = 0; what < left.length; what++) {

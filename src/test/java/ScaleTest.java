@@ -185,6 +185,11 @@ public final class ScaleTest {
         weights(just, 1, 1, 1);
         weights(just, 10000, 10000, 10000);
         weights(just, 10001, -1, -1);
+        CHECK.on(23, "a weight that falls short of what was read by a thousandth");
+        weights(erring(-1), 0, 1, 1);
+        weights(erring(-1), 1, 2, 2);
+        weights(erring(-1), 998, 999, 999);
+        weights(erring(-1), 999, 1000, 1001);
         CHECK.on(23, "the greatest and the least error");
         weights(erring(200), 12000, 10000, 10000);
         weights(erring(200), 12001, -1, -1);
