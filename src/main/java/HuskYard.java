@@ -744,6 +744,7 @@ public final class HuskYard {
         private void packRoll(int rest, int price, int fixed, int all) {
             for (int set = all; set > 0; set--) {
                 int best = packed[set];
+                // (part - 1) & set is always below part: each part comes once, and none behind 0.
                 for (int part = set; part > 0; part = (part - 1) & set) {
                     int opened = packed[set ^ part] + price;
                     if (opened < best && lengthOfSet[part << fixed] <= rest) {
